@@ -989,29 +989,13 @@ public final class ByAlphabet {
 
         private boolean readClaim(int open) {
             int here = token[at];
-            if (here != NOT && here != OPENING) {
-                return readComparison();
+            if (here == NOT || here == OPENING) {
+                if (open >= OPEN_AT_ONCE) {
+                    return fail(TOO_MANY);
+                }
+                goOn();
+                return here == NOT ? readDenied(open + 1) : readBracket(open + 1);
             }
-            if (open >= OPEN_AT_ONCE) {
-                return fail(TOO_MANY);
-            }
-            goOn();
-            if (here == NOT) {
-                boolean fits = readClaim(open + 1);
-                draft.add(NOT);
-                return fits;
-            }
-            if (!readCondition(open + 1)) {
-                return false;
-            }
-            if (token[at] != CLOSING) {
-                return fail(CANNOT_STAND);
-            }
-            goOn();
-            return true;
-        }
-
-        private boolean readComparison() {
             if (!readSum()) {
                 return false;
             }
@@ -1023,6 +1007,23 @@ public final class ByAlphabet {
             boolean fits = readSum();
             draft.add(sign);
             return fits;
+        }
+
+        private boolean readDenied(int open) {
+            boolean fits = readClaim(open);
+            draft.add(NOT);
+            return fits;
+        }
+
+        private boolean readBracket(int open) {
+            if (!readCondition(open)) {
+                return false;
+            }
+            if (token[at] != CLOSING) {
+                return fail(CANNOT_STAND);
+            }
+            goOn();
+            return true;
         }
 
         // E and its Ts at once: a + or - waits until all that is joined by * and / behind it stands.

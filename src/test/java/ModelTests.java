@@ -246,6 +246,11 @@ public final class ModelTests {
             tell(name());
             due("sell", x.sell(), m.sell());
         }
+        boolean fromMarket = oneIn(2);
+        for (int p = 0; fromMarket && !m.w.market.isEmpty() && p < m.w.people.size(); p++) {
+            tell(m.w.market.get(below(m.w.market.size())));
+            due("named", x.named(p), m.named(p));
+        }
         for (int what = 0; what < 3; what++) {
             due("rest " + what, x.rest(what), m.rest(what));
         }

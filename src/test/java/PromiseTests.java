@@ -348,6 +348,10 @@ public final class PromiseTests {
         fault("may;bar when " + "(".repeat(12), 3, 21);
         fault("may when 1(=1;", 1, 10);
         fault("may\nwhen\n1 = 1\n;", 0, -1);
+        fault(";".repeat(400), 1, 0);
+        fault("bar when " + "1+".repeat(195) + "1", 1, 400);
+        fault("bar when 1" + "+1".repeat(193) + "=1;" + " ", 0, -1);
+        fault(" ".repeat(400), 0, -1);
     }
 
     private static void p7fault() {
@@ -527,6 +531,10 @@ public final class PromiseTests {
         same("left out, by ba", listOf(x), "478035126");
         x.set(0, 0);
         same("behind, by ba", listOf(x), "805264317");
+        ByAlphabet y = people(2, "a", "z", "c", "b");
+        same("z behind", listOf(y), "0321");
+        y.set(0, 1);
+        same("z ahead", listOf(y), "2103");
     }
 
     private static void p14lawOfTies() {
@@ -847,6 +855,24 @@ public final class PromiseTests {
         due("no rest", z.rest(0), -1);
         due("a circle", z.rest(1), 12);
         due("taken", z.rest(2), 78);
+        // From ba all go to ce, and come back to that in three rounds more; from ce the circle begins at once.
+        circleOfThree("ba", 10);
+        circleOfThree("ce", 6);
+    }
+
+    private static void circleOfThree(String name, int taken) {
+        ByAlphabet x = people(5, name, name, name, name);
+        x.site(0, 1, 12, 0, 2);
+        x.site(1, 1, -9, 2, 3);
+        for (int what = 2; what < 5; what++) {
+            x.set(what, 0);
+        }
+        tell(x, "ce").sell();
+        tell(x, "ba").sell();
+        due("no rest", x.rest(0), -1);
+        due("a circle of three", x.rest(1), 3);
+        due("taken", x.rest(2), taken);
+        same("in thought", nameOf(x, 0), name);
     }
 
     private static void p21wed() {
