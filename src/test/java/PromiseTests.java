@@ -1086,6 +1086,14 @@ public final class PromiseTests {
         due("abcdfe", six.least(15), 4);
         tell(six, "abcdfe").alphabet();
         due("abcdef", six.least(14), 4);
+        ByAlphabet last = people(6, "a", "b", "c", "d", "e", "f");
+        tell(last, "efdcba").alphabet();
+        last.site(0, 0, 10, 1, 6);
+        // e, the best, loses 1 once: every other order harms more
+        due("the last of all orders", last.least(0), 1);
+        for (int i = 0; i < 6; i++) {
+            due("fedcba", last.least(10 + i), 5 - i);
+        }
         due("seven", made(7).least(0), -1);
         due("seven", made(7).least(10), -1);
         due("two", made(2).least(10), 1);
