@@ -606,7 +606,7 @@ public final class ByAlphabet {
             }
             int name = 0;
             for (int i = 0; i < many; i++) {
-                if (!isLetter(bytes[i])) {
+                if (!isSmallLetter(bytes[i])) {
                     return NONE;
                 }
                 name |= Packed.nameGroup(bytes[i] - 'a' + 1, i);
@@ -634,8 +634,13 @@ public final class ByAlphabet {
             return order;
         }
 
-        static boolean isLetter(int sign) {
+        static boolean isSmallLetter(int sign) {
             return sign >= 'a' && sign <= 'z';
+        }
+
+        // A capital stands together with the letters beside it, though no KEYWORD has one.
+        static boolean isLetter(int sign) {
+            return isSmallLetter(sign) || sign >= 'A' && sign <= 'Z';
         }
 
         static boolean isDigit(int sign) {

@@ -175,7 +175,7 @@ public final class ModelTests {
 
     private void spoil(StringBuilder s) {
         int at = below(s.length());
-        String signs = ";+-*/()<=>a0 9m\n#Z\u00ff";
+        String signs = ";+-*/()<=>a0 9m\n#AZ@[`{\u00ff";
         switch (below(4)) {
             case 0:
                 s.deleteCharAt(at);

@@ -65,7 +65,7 @@ final class NamingText {
             return "";
         }
         int stop = at;
-        while (stop < text.length() && text.charAt(stop) >= 'a' && text.charAt(stop) <= 'z') {
+        while (stop < text.length() && String.valueOf(text.charAt(stop)).matches("[A-Za-z]")) {
             stop++;
         }
         if (stop > at) {

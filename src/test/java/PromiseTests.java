@@ -305,6 +305,26 @@ public final class PromiseTests {
         fault("mays;", 1, 0);
         fault("maybar;", 1, 0);
         fault("may;Bar;", 1, 4);
+        fault("mayA;", 1, 0);
+        fault("Amay;", 1, 0);
+        fault("maY;", 1, 0);
+        fault("MAY;", 1, 0);
+        fault("may A;", 1, 4);
+        fault("may whenZ 1=1;", 1, 4);
+        fault("may when ageZage=1;", 1, 9);
+        fault("may when 1=1A;", 1, 12);
+        fault("may when 1=A1;", 1, 11);
+        fault("may when 2/0A=1;", 2, 11);
+        fault("may when 2/A0=1;", 1, 11);
+        fault("may when not not notA", 1, 17);
+        fault("may when " + "not ".repeat(8) + "notA 1=1;", 1, 41);
+        fault("may;".repeat(16) + "barB;", 1, 64);
+        // The signs beside the capitals and beside the small letters are no letters.
+        fault("may@;", 1, 3);
+        fault("may[;", 1, 3);
+        fault("may`;", 1, 3);
+        fault("may{;", 1, 3);
+        fault("may\u00c4;", 1, 3);
         fault("may; #", 1, 5);
         fault("may\t;", 1, 3);
         fault("may when 1;", 1, 10);
@@ -380,6 +400,8 @@ public final class PromiseTests {
         due("the tape is empty", fed(x), 20);
         x.end(0);
         due("capital", tell(x, "aB").person(0, 0, 0), -1);
+        due("first capital", tell(x, "A").person(0, 0, 0), -1);
+        due("last capital", tell(x, "Z").person(0, 0, 0), -1);
         due("blank", tell(x, "a ").person(0, 0, 0), -1);
         due("`", tell(x, "`").person(0, 0, 0), -1);
         due("{", tell(x, "{").person(0, 0, 0), -1);
