@@ -1,10 +1,7 @@
 /** Each promise of the document by hand: ordinary inputs, the edges it names, and wrong inputs. */
-public final class PromiseTests {
-    private static final int NO_SUCH = -1000000;
-    private static final int LEAST = Integer.MIN_VALUE;
-    private static final int MOST = Integer.MAX_VALUE;
-    private static final Check CHECK = new Check();
-    private static String promise = "";
+public final class PromiseTests extends Told {
+    private PromiseTests() {
+    }
 
     public static void main(String[] args) {
         p1newObject();
@@ -48,84 +45,11 @@ public final class PromiseTests {
         p31image();
         p32look();
         emptiesTape();
-        CHECK.finish();
-    }
-
-    private static void due(String what, long got, long want) {
-        CHECK.due("promise " + promise + ": " + what, got, want);
-    }
-
-    private static void yes(String what, boolean got) {
-        CHECK.due("promise " + promise + ": " + what, got, true);
-    }
-
-    private static void no(String what, boolean got) {
-        CHECK.due("promise " + promise + ": " + what, got, false);
-    }
-
-    private static ByAlphabet tell(ByAlphabet x, String text) {
-        return Check.tell(x, text);
-    }
-
-    private static ByAlphabet made(int letters) {
-        ByAlphabet x = new ByAlphabet();
-        x.letters(letters);
-        return x;
-    }
-
-    private static ByAlphabet people(int letters, String... names) {
-        ByAlphabet x = made(letters);
-        for (String name : names) {
-            tell(x, name).person(0, 0, 0);
-        }
-        return x;
-    }
-
-    private static int fed(ByAlphabet x) {
-        return x.feed(0, 0, 0, 0, 0);
-    }
-
-    private static String alphabetOf(ByAlphabet x) {
-        StringBuilder s = new StringBuilder();
-        for (int i = 0; i < x.look(0); i++) {
-            s.append((char) ('a' + x.look(10 + i)));
-        }
-        return s.toString();
-    }
-
-    private static String nameOf(ByAlphabet x, int p) {
-        StringBuilder s = new StringBuilder();
-        for (int i = 0; i < x.of(p, 3); i++) {
-            s.append((char) ('a' + x.of(p, 10 + i)));
-        }
-        return s.toString();
-    }
-
-    private static String voteOf(ByAlphabet x, int rule) {
-        StringBuilder s = new StringBuilder();
-        for (int i = 0; i < x.look(0); i++) {
-            s.append((char) ('a' + x.vote(rule, i)));
-        }
-        return s.toString();
-    }
-
-    private static String listOf(ByAlphabet x) {
-        char[] s = new char[x.look(1)];
-        for (int p = 0; p < s.length; p++) {
-            s[x.of(p, 4)] = (char) ('0' + p);
-        }
-        return new String(s);
-    }
-
-    private static void same(String what, String got, String want) {
-        if (!got.equals(want)) {
-            System.out.println("promise " + promise + ": " + what + " is " + got + ", due is " + want);
-        }
-        due(what, got.equals(want) ? 1 : 0, 1);
+        finish();
     }
 
     private static void p1newObject() {
-        promise = "1";
+        says("1", "");
         ByAlphabet x = new ByAlphabet();
         due("NONE", ByAlphabet.NONE, -1);
         due("letters", x.look(0), 5);
@@ -144,7 +68,7 @@ public final class PromiseTests {
     }
 
     private static void p2state() {
-        promise = "2";
+        says("2", "");
         ByAlphabet x = new ByAlphabet();
         due("first", x.state(7), 0);
         due("then", x.state(MOST), 7);
@@ -154,7 +78,7 @@ public final class PromiseTests {
     }
 
     private static void p3letters() {
-        promise = "3";
+        says("3", "");
         ByAlphabet x = new ByAlphabet();
         for (int k : new int[] {1, 9, 0, -1, LEAST, MOST}) {
             no("letters " + k, x.letters(k));
@@ -173,7 +97,7 @@ public final class PromiseTests {
     }
 
     private static void p3lettersKeep() {
-        promise = "3";
+        says("3", "");
         ByAlphabet x = new ByAlphabet();
         tell(x, "abcde").chance(2, 9);
         tell(x, "abcde").voter(1, 1);
@@ -214,7 +138,7 @@ public final class PromiseTests {
     }
 
     private static void p4feed() {
-        promise = "4";
+        says("4", "");
         ByAlphabet x = new ByAlphabet();
         due("twenty", x.feed(0x61626364, 0x65666768, 0x696a6b6c, 0x6d6e6f70, 0x71727374), 20);
         x.end(6);
@@ -247,7 +171,7 @@ public final class PromiseTests {
     }
 
     private static void p5end() {
-        promise = "5";
+        says("5", "");
         ByAlphabet x = new ByAlphabet();
         yes("0 of none", x.end(0));
         no("1 of none", x.end(1));
@@ -266,7 +190,7 @@ public final class PromiseTests {
     }
 
     private static void p6text() {
-        promise = "6";
+        says("6", "");
         ByAlphabet x = people(5, "ab");
         due("empty", x.text(), 0);
         due("two lines", tell(x, "may when letters<3;\n bar ;").text(), 2);
@@ -295,7 +219,7 @@ public final class PromiseTests {
     }
 
     private static void p6faults() {
-        promise = "6, 7";
+        says("6, 7", "");
         fault("may", 1, 3);
         fault("may  ", 1, 5);
         fault("may when", 1, 8);
@@ -375,7 +299,7 @@ public final class PromiseTests {
     }
 
     private static void p7fault() {
-        promise = "7";
+        says("7", "");
         ByAlphabet x = new ByAlphabet();
         due("before", x.fault(0), 0);
         due("its place", x.fault(1), -1);
@@ -392,7 +316,7 @@ public final class PromiseTests {
     }
 
     private static void p8person() {
-        promise = "8";
+        says("8", "");
         ByAlphabet x = new ByAlphabet();
         due("no letters", x.person(1, 99, 9999), 0);
         due("six", tell(x, "zzzzzz").person(0, 0, 0), 1);
@@ -424,7 +348,7 @@ public final class PromiseTests {
     }
 
     private static void p9named() {
-        promise = "9";
+        says("9", "");
         ByAlphabet x = people(5, "a", "b");
         tell(x, "bar;").text();
         yes("whether one may or not", tell(x, "cx").named(1));
@@ -444,7 +368,7 @@ public final class PromiseTests {
     }
 
     private static void p10alphabet() {
-        promise = "10";
+        says("10", "");
         ByAlphabet x = people(3, "a", "b", "c");
         yes("told", tell(x, "cab").alphabet());
         same("alphabet", alphabetOf(x), "cab");
@@ -458,7 +382,7 @@ public final class PromiseTests {
     }
 
     private static void p11set() {
-        promise = "11";
+        says("11", "");
         int[] least = {0, 0, 0, 0, 0, 1, 0};
         int[] most = {2, 2, 99, 99, 99, 99, 2};
         ByAlphabet x = new ByAlphabet();
@@ -477,7 +401,7 @@ public final class PromiseTests {
     }
 
     private static void p12site() {
-        promise = "12";
+        says("12", "");
         ByAlphabet x = people(5, "a");
         yes("edges", x.site(5, 1, 99, 99, 20));
         due("worth", x.worth(0, -1), 99);
@@ -499,7 +423,7 @@ public final class PromiseTests {
     }
 
     private static void p13chance() {
-        promise = "13";
+        says("13", "");
         ByAlphabet x = people(2, "a", "b");
         x.site(0, 0, 10, 10, 2);
         yes("told", tell(x, "ba").chance(5, 99));
@@ -518,7 +442,7 @@ public final class PromiseTests {
     }
 
     private static void p14of() {
-        promise = "14";
+        says("14", "");
         ByAlphabet x = new ByAlphabet();
         tell(x, "bazxyz").person(1, 33, 44);
         int[] due = {1, 33, 44, 6, 0};
@@ -542,7 +466,7 @@ public final class PromiseTests {
     }
 
     private static void p14lawOfAbroad() {
-        promise = "14";
+        says("14", "");
         ByAlphabet x = people(2, "b", "xa", "a", "xb", "c", "bx", "ax", "y", "");
         same("behind", listOf(x), "826054137");
         x.set(0, 1);
@@ -560,7 +484,7 @@ public final class PromiseTests {
     }
 
     private static void p14lawOfTies() {
-        promise = "14";
+        says("14", "");
         ByAlphabet x = new ByAlphabet();
         tell(x, "a").person(0, 10, 5);
         tell(x, "a").person(0, 30, 5);
@@ -576,7 +500,7 @@ public final class PromiseTests {
     }
 
     private static void p15worth() {
-        promise = "15";
+        says("15", "");
         ByAlphabet x = people(3, "a", "b", "c", "d");
         x.site(0, 0, 10, 4, 4);
         int[] front = {10, 6, 2, 0};
@@ -611,7 +535,7 @@ public final class PromiseTests {
     }
 
     private static void p16expected() {
-        promise = "16";
+        says("16", "");
         ByAlphabet x = people(2, "a", "b");
         due("all 0, above", x.expected(0, 0), 0);
         due("all 0, below", x.expected(0, 1), 0);
@@ -642,12 +566,8 @@ public final class PromiseTests {
         due("who -1", x.expected(-1, 0), NO_SUCH);
     }
 
-    private static int with(ByAlphabet x, int p, String name, int what) {
-        return tell(x, name).with(p, what);
-    }
-
     private static void p17with() {
-        promise = "17";
+        says("17", "");
         ByAlphabet x = people(5, "bad", "c", "a");
         x.site(0, 0, 50, 20, 3);
         x.set(2, 7);
@@ -697,7 +617,7 @@ public final class PromiseTests {
     }
 
     private static void p17naming() {
-        promise = "17";
+        says("17", "");
         may("letters=3", "a", "abc", 1);
         may("letters=0", "a", "", 1);
         may("first=0", "a", "eab", 1);
@@ -751,7 +671,7 @@ public final class PromiseTests {
     }
 
     private static void p18sell() {
-        promise = "18";
+        says("18", "");
         ByAlphabet x = new ByAlphabet();
         due("no letters", x.sell(), 0);
         due("six", tell(x, "abzxyz").sell(), 1);
@@ -769,7 +689,7 @@ public final class PromiseTests {
     }
 
     private static void p19take() {
-        promise = "19";
+        says("19", "");
         ByAlphabet x = new ByAlphabet();
         tell(x, "abc").person(0, 20, 5);
         tell(x, "b").person(0, 30, 1);
@@ -798,7 +718,7 @@ public final class PromiseTests {
     }
 
     private static void p20rest() {
-        promise = "20";
+        says("20", "");
         ByAlphabet x = people(5, "c", "d", "e");
         x.site(0, 0, 10, 5, 2);
         due("no market", x.rest(0), 0);
@@ -839,7 +759,7 @@ public final class PromiseTests {
     }
 
     private static void p20circles() {
-        promise = "20";
+        says("20", "");
         ByAlphabet x = people(5, "dd", "ece", "bc", "ee");
         x.site(0, 0, 94, 15, 3);
         x.site(1, 1, 93, 17, 2);
@@ -898,7 +818,7 @@ public final class PromiseTests {
     }
 
     private static void p21wed() {
-        promise = "21";
+        says("21", "");
         ByAlphabet x = made(8);
         x.site(0, 0, 40, 10, 5);
         int[] sex = {0, 1, 1, 0, 0, 1, 0};
@@ -929,16 +849,8 @@ public final class PromiseTests {
         due("nobody to ask", people(5, "a").wed(0, 0), -1);
     }
 
-    private static ByAlphabet voters(int letters, String... told) {
-        ByAlphabet x = made(letters);
-        for (int i = 0; i + 2 < told.length; i += 3) {
-            tell(x, told[i]).voter(Integer.parseInt(told[i + 1]), Integer.parseInt(told[i + 2]));
-        }
-        return x;
-    }
-
     private static void p22voter() {
-        promise = "22";
+        says("22", "");
         ByAlphabet x = made(3);
         due("first", tell(x, "cab").voter(9, 999), 0);
         due("second", tell(x, "abc").voter(1, 0), 1);
@@ -961,7 +873,7 @@ public final class PromiseTests {
     }
 
     private static void p23over() {
-        promise = "23";
+        says("23", "");
         ByAlphabet x = voters(4, "abcd", "3", "0", "dcba", "2", "0", "bdac", "4", "0");
         due("a over b", x.over(0, 1), 3);
         due("b over a", x.over(1, 0), 6);
@@ -976,7 +888,7 @@ public final class PromiseTests {
     }
 
     private static void p24vote() {
-        promise = "24";
+        says("24", "");
         ByAlphabet none = made(4);
         tell(none, "dbca").alphabet();
         for (int rule = 0; rule < 3; rule++) {
@@ -1012,7 +924,7 @@ public final class PromiseTests {
     }
 
     private static void p25circle() {
-        promise = "25";
+        says("25", "");
         due("without voters", made(8).circle(), 0);
         due("in one order", voters(4, "abcd", "1", "0").circle(), 0);
         due("three", voters(3, "abc", "1", "0", "bca", "1", "0", "cab", "1", "0").circle(), 3);
@@ -1023,7 +935,7 @@ public final class PromiseTests {
     }
 
     private static void p26buy() {
-        promise = "26";
+        says("26", "");
         ByAlphabet none = made(3);
         tell(none, "bca").alphabet();
         due("by the alphabet", none.buy(1, 0, 0, 0), 0);
@@ -1066,7 +978,7 @@ public final class PromiseTests {
     }
 
     private static void p27harm() {
-        promise = "27";
+        says("27", "");
         ByAlphabet x = people(3, "a", "b", "c");
         x.site(0, 0, 10, 5, 2);
         due("none", tell(x, "abc").harm(), 0);
@@ -1089,7 +1001,7 @@ public final class PromiseTests {
     }
 
     private static void p28least() {
-        promise = "28";
+        says("28", "");
         ByAlphabet x = people(3, "a", "b", "c");
         x.site(0, 0, 10, 5, 2);
         due("how much", x.least(0), 5);
@@ -1122,7 +1034,7 @@ public final class PromiseTests {
     }
 
     private static void p29anew() {
-        promise = "29";
+        says("29", "");
         ByAlphabet x = people(4, "a", "b", "c", "d");
         due("as it is", tell(x, "abcd").anew(0), 0);
         due("all stay", tell(x, "abcd").anew(1), 15);
@@ -1146,7 +1058,7 @@ public final class PromiseTests {
     }
 
     private static void p30years() {
-        promise = "30";
+        says("30", "");
         ByAlphabet x = people(3, "a", "b", "c");
         x.site(0, 0, 5, 3, 3);
         x.site(1, 1, -7, 0, 1);
@@ -1177,7 +1089,7 @@ public final class PromiseTests {
     }
 
     private static void p30born() {
-        promise = "30";
+        says("30", "");
         ByAlphabet x = made(5);
         tell(x, "a").person(0, 98, 0);
         tell(x, "b").person(0, 99, 0);
@@ -1215,7 +1127,7 @@ public final class PromiseTests {
     }
 
     private static void p30votes() {
-        promise = "30";
+        says("30", "");
         ByAlphabet x = voters(3, "bca", "4", "0", "cab", "3", "0", "abc", "2", "0");
         tell(x, "cba").alphabet();
         x.years(9);
@@ -1244,7 +1156,7 @@ public final class PromiseTests {
     }
 
     private static void p31image() {
-        promise = "31";
+        says("31", "");
         ByAlphabet x = new ByAlphabet();
         no("none", x.image(false));
         tell(x, "a").person(1, 2, 3);
@@ -1294,7 +1206,7 @@ public final class PromiseTests {
     }
 
     private static void p32look() {
-        promise = "32";
+        says("32", "");
         ByAlphabet x = voters(3, "abc", "1", "1");
         tell(x, "cab").alphabet();
         tell(x, "a").person(0, 0, 0);
@@ -1327,7 +1239,7 @@ public final class PromiseTests {
     }
 
     private static void emptiesTape() {
-        promise = "8 to 10, 13, 17, 18, 22, 27, 29";
+        says("8 to 10, 13, 17, 18, 22, 27, 29", "");
         for (int call = 0; call < 9; call++) {
             ByAlphabet x = new ByAlphabet();
             tell(x, "abc");
