@@ -473,6 +473,16 @@ public final class BoundaryLandTests extends Told {
         x.years(7);
     }
 
+    /** Nobody and nothing at the place of those of full() that is as it was there. */
+    private static void beOther(ByAlphabet x) {
+        for (int i = 0; i < 5; i++) {
+            tell(x, "zz").person(i == 0 ? 1 : 0, 7 + i, 7 + i);
+            tell(x, "zzz").sell();
+            tell(x, "bca").voter(9, 999);
+        }
+        tell(x, "bar;".repeat(16)).text();
+    }
+
     private static void imageMoreThanOnce() {
         says("31", "all that is and was told .. as it was when it was taken; gone back to it may be more than once");
         ByAlphabet x = full();
@@ -480,7 +490,8 @@ public final class BoundaryLandTests extends Told {
         yes("taken", x.image(true));
         for (int time = 0; time < 3; time++) {
             if (time == 1) {
-                x.letters(8);
+                x.letters(3);
+                beOther(x);
             } else {
                 changeAll(x);
             }

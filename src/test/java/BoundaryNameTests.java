@@ -38,6 +38,8 @@ public final class BoundaryNameTests extends Told {
         nothingStays();
         restByForty();
         circleByForty();
+        circleFromTheStart();
+        eachByItself();
         refusedRest();
         finish();
     }
@@ -225,6 +227,18 @@ public final class BoundaryNameTests extends Told {
         String open = "1=2 or 1=1 and (".repeat(8) + "1=2 or 1=1 and ";
         so(open + "1+2*3=1+2*3" + ")".repeat(8), 1);
         so(open + "1+2*3=1+3*3" + ")".repeat(8), 0);
+        so("1=1 or 1=2 or 1=2", 1);
+        so("1=2 or 1=1 or 1=2", 1);
+        so("1=2 or 1=2 or 1=1", 1);
+        so("1=2 or 1=2 or 1=2", 0);
+        so("1=2 and 1=1 and 1=1", 0);
+        so("1=1 and 1=2 and 1=1", 0);
+        so("1=1 and 1=1 and 1=2", 0);
+        so("1=1 and 1=1 and 1=1", 1);
+        so("1=1 or 1=2 and 1=2", 1);
+        so("1=2 and 1=2 or 1=1", 1);
+        so("not age=7", 0);
+        so("not age=8", 1);
         so("not ".repeat(8) + "age=7", 1);
         so("not ".repeat(7) + "age=7", 0);
         so("not (".repeat(4) + "age=7" + ")".repeat(4), 1);
@@ -577,6 +591,41 @@ public final class BoundaryNameTests extends Told {
                 new int[][] {{1, -18, 6, 3}, {1, 17, 1, 2}}, 1, 1, 0), -1, 14, 89);
         rests("a circle that would close with the 41st", restless("c b deb ad dad", "aad da ddc d ec ad cc",
                 new int[][] {{0, -17, 3, 3}, {1, -18, 4, 3}}, 0, 1, 2), -1, 0, 114);
+    }
+
+    private static ByAlphabet inCircles() {
+        ByAlphabet x = sells(alike(4, "ce"), "ce", "ba");
+        x.site(0, 1, 12, 0, 2);
+        x.site(1, 1, -9, 2, 3);
+        return fees(x, 0, 0, 0);
+    }
+
+    private static void circleFromTheStart() {
+        says("20", "till all NAMES are as ahead of an earlier one");
+        rests("as ahead of the first", inCircles(), -1, 3, 6);
+        ByAlphabet x = inCircles();
+        for (int p = 0; p < 4; p++) {
+            tell(x, "ba").named(p);
+        }
+        rests("as ahead of the second", x, -1, 3, 10);
+    }
+
+    private static void eachByItself() {
+        says("20", "AT REST, in thought (nothing stays)");
+        ByAlphabet x = inCircles();
+        rests("a circle", x, -1, 3, 6);
+        tell(x, "bar;").text();
+        rests("nobody may", x, 0, 0, 0);
+        x.text();
+        rests("a circle again", x, -1, 3, 6);
+        ByAlphabet y = restless("cc be b b d bcd", "a bcd cc ac b aa be ab d", new int[][] {{1, 7, 2, 2}, {1, -16, 5, 1}}, 1, 2, 0);
+        rests("neither", y, -1, 0, 84);
+        y.set(2, 99);
+        y.set(3, 99);
+        y.set(4, 99);
+        rests("nothing to gain", y, 0, 0, 0);
+        fees(y, 1, 2, 0);
+        rests("neither again", y, -1, 0, 84);
     }
 
     private static void refusedRest() {

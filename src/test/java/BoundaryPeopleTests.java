@@ -309,6 +309,9 @@ public final class BoundaryPeopleTests extends Told {
         due("no letter 1", x.of(1, 11), NO_SUCH);
         due("no letter 6", x.of(2, 16), NO_SUCH);
         due("no letter 7", x.of(2, 17), NO_SUCH);
+        ByAlphabet y = people(2, "zzzzzz");
+        due("no letter 6", y.of(0, 16), NO_SUCH);
+        due("no letter -1", y.of(0, 9), NO_SUCH);
     }
 
     private static void refusedOf() {
@@ -355,6 +358,10 @@ public final class BoundaryPeopleTests extends Told {
         same("by ab", listOf(x), ":3265410879");
         tell(x, "ba").alphabet();
         same("by ba", listOf(x), ":2654310789");
+        ByAlphabet y = people(8, "z", "i", "h", "a", "hz", "hi", "hh", "ha", "");
+        same("by abcdefgh", listOf(y), "832765410");
+        tell(y, "hgfedcba").alphabet();
+        same("by hgfedcba", listOf(y), "826754310");
     }
 
     private static void lettersFromAbroadAhead() {
@@ -364,6 +371,11 @@ public final class BoundaryPeopleTests extends Told {
         same("by ab", listOf(x), "71035462");
         tell(x, "ba").alphabet();
         same("by ba", listOf(x), "71023546");
+        ByAlphabet y = people(8, "z", "i", "h", "a", "hz", "hi", "hh", "ha", "");
+        y.set(0, 1);
+        same("by abcdefgh", listOf(y), "810325476");
+        tell(y, "hgfedcba").alphabet();
+        same("by hgfedcba", listOf(y), "810254673");
     }
 
     private static void lettersFromAbroadLeftOut() {

@@ -323,6 +323,9 @@ public final class BoundaryTapeTests extends Told {
         due("is 193", with(x, 0, "b", 0), 0);
         due("a sum of 193", tell(x, "bar when 1" + "+1".repeat(192) + "=192; ").text(), 1);
         due("is not 192", with(x, 0, "b", 0), 1);
+        due("400 signs", tell(x, ";".repeat(400)).text(), -1);
+        due("400 signs, the last one wrong", tell(x, "may;" + " ".repeat(395) + "+").text(), -1);
+        due("its place", x.fault(1), 399);
     }
 
     private static void linesOfNaming() {
@@ -378,6 +381,8 @@ public final class BoundaryTapeTests extends Told {
             fault("may when 1=" + fact + "s;", 1, 11);
             fault("may when 1=" + fact + fact + ";", 1, 11);
             fault("may when 1=" + fact + "A;", 1, 11);
+            fault("may when 1=" + fact + "Z;", 1, 11);
+            fault("may when 1=Z" + fact + ";", 1, 11);
         }
         for (String wrong : new String[] {"ma", "mayy", "ba", "barr", "ay", "m", "maymay"}) {
             fault(wrong + ";", 1, 0);

@@ -30,6 +30,7 @@ public final class BoundaryVoteTests extends Told {
         allAreBought();
         elevenOfTwelve();
         allOthersAsTheyWere();
+        boughtByTheWords();
         refusedBuy();
         finish();
     }
@@ -366,6 +367,57 @@ public final class BoundaryVoteTests extends Told {
         // a 4, b 6, c 2; with 0 bought: cab, bac, cba: a 3, b 5, c 4; with 1: abc, cba, cba: a 2, b 4, c 6
         buys("c over b", y, 0, "cb", 2, 9);
         buys("c over a", y, 0, "ca", 1, 1);
+    }
+
+    private static final String[][] PROFILES = {
+        {"cba", "1", "3", "bac", "1", "2", "acb", "1", "1"},
+        {"bca", "4", "5", "cab", "3", "5", "abc", "2", "1", "cba", "2", "0"},
+        {"abcd", "3", "4", "bcda", "3", "4", "cdab", "3", "4", "dabc", "3", "4"},
+        {"dcba", "2", "7", "adcb", "2", "7", "bdac", "1", "3", "cabd", "4", "9", "dbca", "1", "0"},
+        {"edcba", "5", "6", "abecd", "4", "2", "caebd", "3", "2", "dbace", "2", "2"},
+        {"ebdac", "1", "1", "acebd", "1", "1", "dabec", "1", "1", "cdeab", "1", "1", "bcdea", "1", "1"}};
+
+    /** The ORDER by a RULE when a set of a profile's VOTERS is bought for a letter: told so to an object of its own. */
+    private static String boughtOrder(String[] profile, int set, char letter, int rule) {
+        String[] told = profile.clone();
+        for (int v = 0; 3 * v < told.length; v++) {
+            if ((set >> v & 1) == 1) {
+                told[3 * v] = letter + told[3 * v].replace(String.valueOf(letter), "");
+            }
+        }
+        return voteOf(voters(told[0].length(), told), rule);
+    }
+
+    private static int[] cheapest(String[] profile, char a, char b, int rule) {
+        int[] best = {-1, -1};
+        for (int set = 0; set < 1 << profile.length / 3; set++) {
+            int price = 0;
+            for (int v = 0; v < profile.length / 3; v++) {
+                price += (set >> v & 1) * Integer.parseInt(profile[3 * v + 2]);
+            }
+            boolean isBetter = best[0] < 0 || price < best[1]
+                    || price == best[1] && Integer.bitCount(set) < Integer.bitCount(best[0]);
+            String order = isBetter ? boughtOrder(profile, set, a, rule) : "";
+            if (isBetter && order.indexOf(a) < order.indexOf(b)) {
+                best = new int[] {set, price};
+            }
+        }
+        return best;
+    }
+
+    private static void boughtByTheWords() {
+        says("26", "of all sets of VOTERS that bring it about that with the least PRICE, then the fewest, then the least");
+        for (String[] profile : PROFILES) {
+            int k = profile[0].length();
+            ByAlphabet x = voters(k, profile);
+            for (int pair = 0; pair < k * k; pair++) {
+                char a = (char) ('a' + pair / k);
+                char b = (char) ('a' + pair % k);
+                for (int rule = 0; rule < 3 && a != b; rule++) {
+                    buys(profile[0] + " ..: " + a + " over " + b, x, rule, "" + a + b, cheapest(profile, a, b, rule));
+                }
+            }
+        }
     }
 
     private static void refusedBuy() {
