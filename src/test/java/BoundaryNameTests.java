@@ -608,6 +608,13 @@ public final class BoundaryNameTests extends Told {
             tell(x, "ba").named(p);
         }
         rests("as ahead of the second", x, -1, 3, 10);
+        // Sixteen more, ahead of the others, who may take nothing.
+        ByAlphabet y = inCircles();
+        for (int p = 4; p < 20; p++) {
+            y.person(0, 1, 0);
+        }
+        tell(y, "bar when age>0;").text();
+        rests("of twenty", y, -1, 3, 6);
     }
 
     private static void eachByItself() {

@@ -358,6 +358,11 @@ public final class BoundaryPeopleTests extends Told {
         same("by ab", listOf(x), ":3265410879");
         tell(x, "ba").alphabet();
         same("by ba", listOf(x), ":2654310789");
+        for (int k = 2; k <= 8; k++) {
+            String last = "abcdefgh".substring(k - 1, k);
+            String abroad = "abcdefghi".substring(k, k + 1);
+            same("the first from abroad behind the last letter", listOf(people(k, abroad, last)), "10");
+        }
         ByAlphabet y = people(8, "z", "i", "h", "a", "hz", "hi", "hh", "ha", "");
         same("by abcdefgh", listOf(y), "832765410");
         tell(y, "hgfedcba").alphabet();
@@ -371,6 +376,11 @@ public final class BoundaryPeopleTests extends Told {
         same("by ab", listOf(x), "71035462");
         tell(x, "ba").alphabet();
         same("by ba", listOf(x), "71023546");
+        for (int k = 2; k <= 8; k++) {
+            ByAlphabet z = people(k, "a", "z");
+            z.set(0, 1);
+            same("the last from abroad ahead of the first letter", listOf(z), "10");
+        }
         ByAlphabet y = people(8, "z", "i", "h", "a", "hz", "hi", "hh", "ha", "");
         y.set(0, 1);
         same("by abcdefgh", listOf(y), "810325476");

@@ -26,6 +26,7 @@ public final class BoundaryTapeTests extends Told {
         linesOfNaming();
         faultLeavesNaming();
         keywords();
+        keywordsElsewhere();
         numbers();
         blanks();
         tokensSideBySide();
@@ -395,6 +396,26 @@ public final class BoundaryTapeTests extends Told {
         }
         for (String wrong : new String[] {"no", "nott", "ot", "notnot", "Not"}) {
             fault("may when " + wrong + " 1=1;", 1, 9);
+        }
+    }
+
+    private static void keywordsElsewhere() {
+        says("6, 7", "1 what can't stand there");
+        for (String word : new String[] {"may", "bar", "when", "or", "and"}) {
+            fault("may when " + word + "=1;", 1, 9);
+            fault("may when 1=" + word + ";", 1, 11);
+            fault("may when 1+" + word + "=1;", 1, 11);
+            fault("may when 1*" + word + "=1;", 1, 11);
+            fault("may when 1/" + word + "=1;", 1, 11);
+            fault("may when (" + word + "=1);", 1, 10);
+            fault("may when not " + word + "=1;", 1, 13);
+        }
+        fault("may when 1=not 1;", 1, 11);
+        fault("may when 1+not 1=1;", 1, 11);
+        for (String word : new String[] {"or", "and", "not", "when", "letters", "worth", "1", "="}) {
+            fault(word + ";", 1, 0);
+            fault("may " + (word.equals("when") ? "bar" : word) + ";", 1, 4);
+            fault("may when 1=1 " + (word.equals("or") || word.equals("and") ? "may" : word) + ";", 1, 13);
         }
     }
 
